@@ -47,9 +47,7 @@ public final class PressDays {
 
     public int job(int kind, int slots, int colour, int by, int price) {
         if (!isJob(kind, slots, colour, by, price)) return BAD;
-        if (now.jobs.count >= MOST_JOBS) return FULL;
-        now.come(kind, slots, colour, by, price);
-        return now.jobs.count - 1;
+        return now.come(kind, slots, colour, by, price);
     }
 
     public int jobOf(int job, int what) {
@@ -220,7 +218,6 @@ public final class PressDays {
         if (!isJob(kind, slots, colour, 0, price)) return BAD;
         if (!within(patience, 0, 20) || !within(odds, 1, 4)) return BAD;
         if (types.oddsOfAll() + odds > 4) return STATE;
-        if (types.count >= Types.MOST) return FULL;
         return types.add(kind, slots, colour, patience, price, odds);
     }
 
@@ -417,7 +414,7 @@ public final class PressDays {
     private static int partOf(int above, int twos, int part) {
         int left = twos;
         int top = above;
-        for (int i = 0; i < twos && left > 0 && top % 2 == 0; i++) {
+        while (left > 0 && top % 2 == 0) {
             top /= 2;
             left--;
         }
@@ -519,10 +516,11 @@ public final class PressDays {
             till = 0;
         }
 
-        void come(int kind, int slots, int itsColour, int by, int price) {
-            if (jobs.count >= MOST_JOBS) return;
+        int come(int kind, int slots, int itsColour, int by, int price) {
+            if (jobs.count >= MOST_JOBS) return FULL;
             order[jobs.count] = jobs.count;
             jobs.add(kind, slots, itsColour, by, price);
+            return jobs.count - 1;
         }
 
         void leave(int job) {

@@ -9,6 +9,7 @@ public final class BoardTest {
         boardReads();
         boardFaults();
         boardBegins();
+        boardForgets();
         job();
         jobOf();
         drop();
@@ -116,6 +117,9 @@ public final class BoardTest {
         T.promise(3);
         fault("card 3 by 2 for 1;", 0);
         fault("jobs 3 by 2 for 1;", 0);
+        fault("jobz 3 by 2 for 1;", 0);
+        fault("kob 3 by 2 for 1;", 0);
+        fault("zlots 3;", 0);
         fault("  Job 3 by 2 for 1;", 2);
         fault("by 3", 0);
         fault("black 3 by 1 for 1;", 0);
@@ -138,6 +142,8 @@ public final class BoardTest {
         fault("3 by 60 for 100;", 12);
         fault("3 by 60 for ;", 12);
         fault("3 by 60 for 99 99;", 15);
+        fault("3 by 60 for 99,", 14);
+        fault("3 by 60 for 99:;", 14);
         fault("3 by 60 for 99 3 by 60 for 99;", 15);
         fault("slots 0;", 6);
         fault("slots 5;", 6);
@@ -198,6 +204,43 @@ public final class BoardTest {
         T.due("set(2, 0)", x.set(2, 0), 4);
         T.due("set(3, 0)", x.set(3, 0), 3);
         T.due("seed(0)", x.seed(0), 77);
+    }
+
+    private static void boardForgets() {
+        T.promise(3);
+        PressDays x = new PressDays();
+        for (int day : new int[] {0, 60}) {
+            x.lose(day, 1);
+            x.night(day, 3);
+        }
+        x.set(0, 1);
+        x.lose(0, 0);
+        x.night(0, 0);
+        x.job(0, 1, 1, 0, 1);
+        x.job(0, 1, 1, 0, 1);
+        x.set(1, 3);
+        x.plan(1);
+        x.goes();
+        x.lose(0, 1);
+        x.night(0, 3);
+        T.due("press(2) ahead", x.press(2), 2);
+        T.due("planOf(0) ahead", x.planOf(0), 1);
+        T.due("prove()", x.prove(), 2);
+        T.due("board()", Due.board(x, "slots 3; 2 by 1 for 5; 2 by 1 for 5;"), 2);
+        T.due("press(2)", x.press(2), 0);
+        T.due("planOf(0)", x.planOf(0), 0);
+        T.due("many(2)", x.many(2), 0);
+        T.due("slots(0)", x.slots(0), 3);
+        T.due("slots(60)", x.slots(60), 3);
+        // What an earlier text told doesn't count again, nor what one with a fault told.
+        x.set(0, 1);
+        T.due("board() that tells no law", Due.board(x, ""), 0);
+        T.due("slots(0) stays", x.slots(0), 1);
+        T.due("board() with a fault", Due.board(x, "slots 4; fine 9; setting 2; x"), -128);
+        T.due("board() that tells no law", Due.board(x, ""), 0);
+        T.due("slots(0) stays", x.slots(0), 1);
+        T.due("set(1, 0)", x.set(1, 0), 3);
+        T.due("set(2, 0)", x.set(2, 0), 5);
     }
 
     private static void job() {

@@ -142,6 +142,15 @@ public final class ComersTest {
         }
         for (int i = 0; i < 4; i++) T.due("all were drawn", count[i] > 0 ? 1 : 0, 1);
         T.due("many(0): it only tells", x.many(0), 0);
+        x.type(0, 1, 0, 0, 1, 1);
+        x = new PressDays();
+        for (int i = 0; i < 3; i++) x.type(0, 1, 0, 0, 1, 1);
+        z = 1;
+        for (int i = 0; i < 40; i++) {
+            z = z * 1103515245 + 12345;
+            int drawn = z >> 16 & 3;
+            T.due("comes() of three", x.comes(), drawn < 3 ? drawn : -9);
+        }
     }
 
     private static void seed() {

@@ -35,7 +35,9 @@ public final class HostTest {
             T.due("sheet refused", x.sheet(sort, sort, -1), -14);
             T.due("sheet refused", x.sheet(sort, sort, 41), -1);
             T.due("item(39) stays", x.item(sort, sort, 39), 7);
+            x.put(sort, 0, 7);
             T.due("sheet anew", x.sheet(sort, sort, 40), 1);
+            T.due("item(0) is 0", x.item(sort, sort, 0), 0);
             T.due("item(39) is 0", x.item(sort, sort, 39), 0);
         }
         T.due("sheet of 0", x.sheet(2, 0, 0), 1);
@@ -65,7 +67,8 @@ public final class HostTest {
             T.due("the others stay", x.item(sort, sort, 1), 0);
             for (int i : new int[] {-1, 3, 40, MIN, MAX}) T.due("put(.., " + i + ")", x.put(sort, i, 1), -12);
         }
-        x.put(1, 0, 5);
+        T.due("put(1, 0, 5)", x.put(1, 0, 5), 1);
+        T.due("item(1, 1, 0)", x.item(1, 1, 0), 5);
         T.due("the next sheet stays", x.item(2, 2, 0), 0);
     }
 

@@ -41,6 +41,10 @@ public final class KeptTest {
         x.plan(0102);
         x.lose(7, 1);
         x.night(9, 4);
+        x.lose(59, 1);
+        x.lose(60, 1);
+        x.night(59, 2);
+        x.night(60, 3);
         x.type(2, 3, 1, 4, 50, 3);
         x.seed(1234);
         return x;
@@ -61,6 +65,8 @@ public final class KeptTest {
         T.due("slots(1)" + when, x.slots(1), 2);
         T.due("slots(7)" + when, x.slots(7), 0);
         T.due("slots(9)" + when, x.slots(9), 5);
+        T.due("slots(59)" + when, x.slots(59), 2);
+        T.due("slots(60)" + when, x.slots(60), 3);
         T.due("set(1, 3)" + when, x.set(1, 3), 3);
         T.due("set(2, 6)" + when, x.set(2, 6), 6);
         T.due("set(3, 2)" + when, x.set(3, 2), 2);

@@ -5,6 +5,7 @@ public final class RowsTest {
 
     public static void main(String[] args) {
         prove();
+        proveSix();
         rowAndAlter();
         judge();
         judgeLater();
@@ -48,6 +49,21 @@ public final class RowsTest {
         x.drop(0);
         T.due("prove() of none left", x.prove(), 0);
         T.due("row(0, 0) of none", x.row(0, 0), NO);
+    }
+
+    private static void proveSix() {
+        T.promise(33);
+        PressDays x = new PressDays();
+        x.set(0, 1);
+        for (int i = 0; i < 6; i++) x.job(0, 1, 0, 5 - i, i);
+        T.due("prove() of six", x.prove(), 6);
+        for (int i = 0; i < 6; i++) {
+            T.due("row(" + i + ", 0)", x.row(i, 0), 5 - i);
+            T.due("row(" + i + ", 1)", x.row(i, 1), i);
+            T.due("row(" + i + ", 2)", x.row(i, 2), 5 - i);
+        }
+        T.promise(36);
+        T.due("judge() of six", x.judge(), 0);
     }
 
     private static void rowAndAlter() {
@@ -103,6 +119,15 @@ public final class RowsTest {
         }
         x.alterRow(2, 0, 1);
         T.due("judge() of a job told twice", x.judge(), 3);
+        // Told twice with the day and worth that it would have behind itself.
+        x.drop(2);
+        x.prove();
+        x.alterRow(1, 0, 0);
+        x.alterRow(1, 1, 2);
+        x.alterRow(1, 2, -5);
+        T.due("judge() of a job told twice as if there were two", x.judge(), 2);
+        x.job(0, 1, 0, 0, 7);
+        x.prove();
         x.alterRow(1, 2, 21);
         T.due("judge(): the first one", x.judge(), 2);
         // Any order will do, if it is told rightly: 2, 1, 0 ends on days 0, 1, 3.

@@ -7,6 +7,7 @@ public final class WorthTest {
     public static void main(String[] args) {
         ends();
         endsFarOff();
+        longest();
         worthOfKinds();
         lateAndWorth();
         best();
@@ -80,13 +81,37 @@ public final class WorthTest {
         for (int day = 0; day < 60; day++) x.goes();
         T.due("press(1): no slot, no setting", x.press(1), 0);
         T.due("ends(5) on day 60", x.ends(5), 132);
+        x.set(3, 4);
+        T.promise(25);
+        T.due("mean(0) of all far off", x.mean(0), -30);
+        T.promise(14);
         x.night(60, 9);
         T.due("ends(5) with nights", x.ends(5), 123);
-        x.set(3, 4);
         T.promise(23);
         T.due("sure(0)", x.sure(0), 0);
         T.promise(25);
         T.due("mean(0)", x.mean(0), -30);
+    }
+
+    /** As many slots as there can be: six jobs, each twice as long and set anew: 126. */
+    private static void longest() {
+        PressDays x = new PressDays();
+        x.set(0, 4);
+        x.set(1, 3);
+        x.set(3, 4);
+        for (int day = 0; day < 9; day++) x.night(day, 9);
+        x.night(9, 4);
+        for (int i = 0; i < 5; i++) x.job(0, 9, (i + 1) % 2, 60, 1);
+        x.job(0, 9, 0, 9, 1);
+        T.promise(23);
+        T.due("sure(0) with 125 slots in time", x.sure(0), 0);
+        T.promise(25);
+        T.due("mean(0) with 125 slots in time", x.mean(0), 0);
+        x.night(9, 5);
+        T.promise(23);
+        T.due("sure(0) with 126 slots in time", x.sure(0), 1);
+        T.promise(25);
+        T.due("mean(0) with 126 slots in time", x.mean(0), 6);
     }
 
     private static int worthOne(int kind, int slots, int by, int price) {
@@ -272,6 +297,17 @@ public final class WorthTest {
         x.night(0, 1);
         T.due("across(0) of none late", x.across(0), -9);
         T.due("across(1) of none late", x.across(1), 37);
+        // Only 0 and 2 stand in each other's way.
+        x = oneSlot();
+        x.job(0, 1, 0, 0, 8);
+        x.job(0, 1, 0, 60, 2);
+        x.job(0, 1, 0, 0, 6);
+        T.due("across(0) of two in the way", x.across(0), 2);
+        T.due("across(1) of two in the way", x.across(1), 13);
+        // What has gone counts no more.
+        x.job(0, 1, 0, 60, 99);
+        x.drop(3);
+        T.due("across(0) behind a drop", x.across(0), 2);
         // None is ahead of those that bring as much, then the first.
         x = oneSlot();
         x.job(2, 1, 0, 0, 11);
@@ -397,6 +433,21 @@ public final class WorthTest {
         T.due("safest(0) of odds 0", x.safest(0), 0201);
         T.due("safest(1) of odds 0", x.safest(1), 1);
         T.due("safest(2) of odds 0", x.safest(2), 1);
+        // The first order has odds, too: 9 by 16 for 0 ahead of 1, 15 by 16 for 1 ahead of 0.
+        x = oneSlot();
+        x.job(0, 1, 0, 2, 9);
+        x.job(0, 1, 0, 1, 9);
+        x.job(0, 1, 0, 60, 9);
+        T.due("safest(0) of odds for all", x.safest(0), 0201);
+        T.due("safest(1) of odds for all", x.safest(1), 15);
+        T.due("safest(2) of odds for all", x.safest(2), 16);
+        x.set(3, 3);
+        T.due("safest(1) of odds 3", x.safest(1), 7);
+        T.due("safest(2) of odds 3", x.safest(2), 16);
+        x.plan(0201);
+        T.promise(23);
+        T.due("sure(0) of odds 3", x.sure(0), 7);
+        T.promise(24);
         // The one with the most worth isn't the surest.
         x = oneSlot();
         x.job(0, 1, 0, 0, 99);
@@ -430,6 +481,13 @@ public final class WorthTest {
         x.set(3, 0);
         T.due("mean(0) of odds 0", x.mean(0), 16);
         T.due("mean(1) of odds 0", x.mean(1), 1);
+        // With setting: on days 0 or 0 to 1, then setting, then 2, 3, 3, 4; odds 3.
+        x = oneSlot();
+        x.set(3, 3);
+        x.job(0, 1, 0, 0, 11);
+        x.job(0, 1, 1, 3, 7);
+        T.due("mean(0) with setting", x.mean(0), ((1 * 11 - 3 * 5) * 4 + 7 * 7 - 9 * 5) / 4);
+        T.due("mean(1) with setting", x.mean(1), 4);
         x = oneSlot();
         x.set(3, 2);
         x.job(0, 1, 0, 0, 5);
