@@ -126,6 +126,12 @@ public final class RowsTest {
         x.alterRow(1, 1, 2);
         x.alterRow(1, 2, -5);
         T.due("judge() of a job told twice as if there were two", x.judge(), 2);
+        // The same of the other job: black, set on day 0, ending on days 1 and 2, in time on both.
+        int[][] twice = {{1, 1, 20}, {1, 2, 20}};
+        for (int i = 0; i < 2; i++) {
+            for (int k = 0; k < 3; k++) x.alterRow(i, k, twice[i][k]);
+        }
+        T.due("judge() of another job told twice as if there were two", x.judge(), 2);
         x.job(0, 1, 0, 0, 7);
         x.prove();
         x.alterRow(1, 2, 21);

@@ -349,6 +349,13 @@ public final class WorthTest {
         T.due("nights(): a lost day has one more, too", x.nights(), 0);
         x.night(8, 0);
         T.due("nights(): a lost day has one more, too", x.nights(), 1);
+        x = oneSlot();
+        x.job(0, 9, 0, 9, 1);
+        x.job(0, 9, 0, 9, 1);
+        x.job(0, 1, 0, 9, 1);
+        T.due("nights() of nineteen", x.nights(), 9);
+        x.job(0, 1, 0, 9, 1);
+        T.due("nights() of twenty", x.nights(), -3);
         // They count from now on.
         x = oneSlot();
         x.job(0, 9, 0, 9, 1);
