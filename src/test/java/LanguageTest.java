@@ -13,6 +13,13 @@ import java.util.regex.Pattern;
 /** What can be seen of ../shared/LANGUAGE.md in the program's text and in its compiled classes. */
 public final class LanguageTest {
     private static final Due T = new Due("LanguageTest");
+    /** The public methods of the document, each with its parameters; all answer an int. */
+    private static final String FACE = "feed(long,int) board() job(int,int,int,int,int) jobOf(int,int) drop(int) "
+        + "set(int,int) lose(int,int) night(int,int) slots(int) plan(int) planOf(int) press(int) ends(int) late() worth() "
+        + "best(int) fewest() soonest(int,int,int) gain(int,int,int,int,int) across(int) nights() sure(int) safest(int) "
+        + "mean(int) type(int,int,int,int,int,int) typeOf(int,int) ahead(int,int) comes() seed(int) goes() till() prove() "
+        + "row(int,int) alterRow(int,int,int) judge() sheet(int,int,int) put(int,int,int) item(int,int,int) "
+        + "shelf(int,int,int) taken(int,int) act(int,int,int) trace(int) many(int) keep() again()";
     private static final int MOST_LINES = 60, MOST_PARAMETERS = 7, MOST_FIELDS = 20, MOST_CLASSES = 12;
 
     public static void main(String[] args) throws IOException {
@@ -62,16 +69,25 @@ public final class LanguageTest {
 
     private static void face() {
         TreeSet<String> names = new TreeSet<>();
+        TreeSet<String> due = new TreeSet<>(List.of(FACE.split(" ")));
         for (Method m : PressDays.class.getDeclaredMethods()) {
-            if (Modifier.isPublic(m.getModifiers())) names.add(m.getName());
-            else T.due(m + " is private", Modifier.isPrivate(m.getModifiers()) ? 1 : 0, 1);
+            if (!Modifier.isPublic(m.getModifiers())) {
+                T.due(m + " is private", Modifier.isPrivate(m.getModifiers()) ? 1 : 0, 1);
+                continue;
+            }
+            names.add(m.getName());
+            String parameters = m.toString().replaceAll(".*PressDays\\.", "");
+            T.due(m + " is of the document's face", due.remove(parameters) ? 1 : 0, 1);
+            T.due(m + " answers an int", m.getReturnType() == int.class && !Modifier.isStatic(m.getModifiers()) ? 1 : 0, 1);
         }
-        T.due("names of the face", names.size(), 45);
+        T.due("methods of the face that are missing: " + due, due.size(), 0);
+        T.due("the class is public and final", PressDays.class.getModifiers(), Modifier.PUBLIC | Modifier.FINAL);
         TreeSet<String> constants = new TreeSet<>(List.of("BAD", "FULL", "NONE", "STATE", "NO"));
         for (Field f : PressDays.class.getDeclaredFields()) {
-            boolean due = constants.contains(f.getName()) ? Modifier.isPublic(f.getModifiers()) : Modifier.isPrivate(f.getModifiers());
-            T.due(f + " is as it may be", due ? 1 : 0, 1);
+            int access = f.getModifiers() & (Modifier.PUBLIC | Modifier.PRIVATE);
+            T.due(f + " is as it may be", access, constants.remove(f.getName()) ? Modifier.PUBLIC : Modifier.PRIVATE);
         }
+        T.due("constants that are missing: " + constants, constants.size(), 0);
         T.due("constructors", PressDays.class.getConstructors().length, 1);
         List<Class<?>> classes = new ArrayList<>(List.of(PressDays.class.getDeclaredClasses()));
         for (Class<?> c : classes) T.due(c + " is static", Modifier.isStatic(c.getModifiers()) ? 1 : 0, 1);
