@@ -792,7 +792,6 @@ public final class PressDays {
         private final Course course;
         private final int[] order = new int[MOST_JOBS];
         final int[] chosen = new int[MOST_JOBS];
-        private Jobs jobs = null;
         private int aim = PRICES;
         private int many = 0;
         private int least = NEVER;
@@ -820,15 +819,14 @@ public final class PressDays {
 
         private int leastLost(int what, Jobs all, int without) {
             aim = what;
-            jobs = all;
             least = NEVER;
             boolean isOut = all.has(without);
             many = isOut ? all.count - 1 : all.count;
-            walk(0, 0, 0, isOut ? 1 << without : 0, 0);
+            walk(all, 0, 0, 0, isOut ? 1 << without : 0, 0);
             return least;
         }
 
-        private void walk(int depth, int used, int was, int gone, int lost) {
+        private void walk(Jobs jobs, int depth, int used, int was, int gone, int lost) {
             // A longer order never loses less, and of equal ones the first counts.
             if (lost >= least) return;
             if (depth >= many) {
@@ -840,11 +838,12 @@ public final class PressDays {
                 if ((gone >> job & 1) != 0) continue;
                 int then = course.usedBehind(used, was, jobs, job);
                 order[depth] = job;
-                walk(depth + 1, then, jobs.colour[job], gone | 1 << job, lost + lossOf(job, course.dayAt(then)));
+                int loss = lossOf(jobs, job, course.dayAt(then));
+                walk(jobs, depth + 1, then, jobs.colour[job], gone | 1 << job, lost + loss);
             }
         }
 
-        private int lossOf(int job, int end) {
+        private int lossOf(Jobs jobs, int job, int end) {
             boolean isLate = end > jobs.by[job];
             switch (aim) {
                 case PRICES: return jobs.price[job] - jobs.valueOf(job, end, course.fine);
@@ -867,7 +866,6 @@ public final class PressDays {
         private final int[] size = new int[MOST_JOBS + 1];
         private final int[] order = new int[MOST_JOBS];
         final int[] chosen = new int[MOST_JOBS];
-        private Jobs jobs = null;
         private boolean lateToo = false;
         private int earned = 0;
         private int most = 0;
@@ -877,43 +875,42 @@ public final class PressDays {
         }
 
         /** Of 4 to the number of JOBS. */
-        int sureOf(Jobs all, int[] plan) {
-            begin(all, false);
+        int sureOf(Jobs jobs, int[] plan) {
+            begin(false);
             int sum = 1;
-            for (int i = 0; i < all.count; i++) {
-                sum = spread(i, i == 0 ? 0 : all.colour[plan[i - 1]], plan[i]);
+            for (int i = 0; i < jobs.count; i++) {
+                sum = spread(jobs, i, i == 0 ? 0 : jobs.colour[plan[i - 1]], plan[i]);
             }
             return sum;
         }
 
         /** Of 4 to the number of JOBS. */
-        int meanOf(Jobs all, int[] plan) {
-            begin(all, true);
+        int meanOf(Jobs jobs, int[] plan) {
+            begin(true);
             int sum = 0;
-            for (int i = 0; i < all.count; i++) {
-                spread(i, i == 0 ? 0 : all.colour[plan[i - 1]], plan[i]);
+            for (int i = 0; i < jobs.count; i++) {
+                spread(jobs, i, i == 0 ? 0 : jobs.colour[plan[i - 1]], plan[i]);
                 sum = sum * 4 + earned;
             }
             return sum;
         }
 
         /** Of 4 to the number of JOBS. */
-        int surest(Jobs all) {
-            begin(all, false);
+        int surest(Jobs jobs) {
+            begin(false);
             most = -1;
-            walk(0, 0, 0, 1);
+            walk(jobs, 0, 0, 0, 1);
             return most;
         }
 
-        private void begin(Jobs all, boolean keepsLate) {
-            jobs = all;
+        private void begin(boolean keepsLate) {
             lateToo = keepsLate;
             used[1] = 0;
             weight[1] = 1;
             size[0] = 1;
         }
 
-        private void walk(int depth, int was, int gone, int sum) {
+        private void walk(Jobs jobs, int depth, int was, int gone, int sum) {
             // What follows can only take odds away, and of equal ones the first counts.
             if (sum << 2 * (jobs.count - depth) <= most) return;
             if (depth >= jobs.count) {
@@ -924,12 +921,12 @@ public final class PressDays {
             for (int job = 0; job < jobs.count; job++) {
                 if ((gone >> job & 1) != 0) continue;
                 order[depth] = job;
-                walk(depth + 1, jobs.colour[job], gone | 1 << job, spread(depth, was, job));
+                walk(jobs, depth + 1, jobs.colour[job], gone | 1 << job, spread(jobs, depth, was, job));
             }
         }
 
         /** Parts each outcome behind some JOBS in two by the next one: their weights together. */
-        private int spread(int level, int was, int job) {
+        private int spread(Jobs jobs, int level, int was, int job) {
             int from = 1 << level;
             int to = from * 2;
             int kept = 0;
@@ -1023,16 +1020,12 @@ public final class PressDays {
 
         /** The most WORTH on average behind n calls, times 4 to the n. */
         int mostOf(Types types, Jobs jobs, int day, int n) {
-            return behindCalls(types, jobs, day, n);
-        }
-
-        private int behindCalls(Types types, Jobs jobs, int day, int n) {
             if (n <= 0) return orders.mostWorth(jobs, NO_JOB);
-            int without = behindCalls(types, jobs, day, n - 1);
+            int without = mostOf(types, jobs, day, n - 1);
             int sum = without * (4 - types.oddsOfAll());
             for (int i = 0; i < types.count; i++) {
                 jobs.add(types.kind[i], types.slots[i], types.colour[i], day + types.patience[i], types.price[i]);
-                int with = behindCalls(types, jobs, day, n - 1);
+                int with = mostOf(types, jobs, day, n - 1);
                 jobs.remove(jobs.count - 1);
                 sum += types.odds[i] * Math.max(with, without);
             }

@@ -32,6 +32,12 @@ public final class LanguageTest {
         for (String sign : new String[] {"->", "::", "@", "\\bnew \\w+\\([^;]*\\)\\s*\\{", "\\bstatic\\s*\\{"}) {
             T.due("signs " + sign, count(bare, sign), 0);
         }
+        // No reference is ever empty, so that none has to be asked whether it is.
+        T.due("word null", count(bare, "\\bnull\\b"), 0);
+        for (String type : new String[] {"Jobs", "Board", "Text", "Course", "Orders", "Chance", "Types", "Ahead", "Rows",
+            "Shelves", "Thing", "int\\[\\]", "byte\\[\\]"}) {
+            T.due("fields of " + type + " that can be set anew", count(bare, "\n +(private )?" + type + " \\w+( =[^\n]*)?;"), 0);
+        }
         T.due("loops without an end", count(bare, "while \\(true\\)|for \\(;;\\)"), 0);
         lengths(bare);
         face();
